@@ -6,12 +6,13 @@ public final class OrderedRoom {
     private static final int REFUSED = -1;
     private static final int NO_MESSAGE = -1;
 
-    // A link is a way from one member to another: number from * MEMBERS + to.
+    // A link is a way from one member to another, numbered from * MEMBERS + to; MEMBERS * MEMBERS in all.
     private static final int LINKS = 9;
     // A tick leaves at most TICK_LIMIT things on a link, and messages add at most MESSAGES more.
     private static final int LINK_SLOTS = 60;
+    // LINKS * LINK_SLOTS.
     private static final int ALL_SLOTS = 540;
-    // One cell for each member and message: number member * MESSAGES + message (or place).
+    // Cells are numbered member * MESSAGES + message (or place); MEMBERS * MESSAGES in all.
     private static final int CELLS = 120;
 
     private final int[] clocks = new int[MEMBERS];
@@ -199,7 +200,7 @@ public final class OrderedRoom {
 
     private int earliestUnread(int member) {
         int earliest = NO_MESSAGE;
-        for (int message = 0; message < written; message++) {
+        for (int message = 0; message < MESSAGES; message++) {
             if (unread[member * MESSAGES + message]
                     && (earliest == NO_MESSAGE || isEarlier(stampClock[message], stampMember[message], earliest))) {
                 earliest = message;
