@@ -5,7 +5,7 @@ final class AgreeTest {
     public static void main(String[] args) {
         OrderedRoom room = new OrderedRoom();
         allAgree("nothing read", room);
-        room = Checks.roomOfThree();
+        room = Rooms.after(Rooms.THREE);
         room.take(1, 0);
         room.take(2, 0);
         allAgree("read 2, 0 and 0", room);

@@ -1,4 +1,4 @@
-/** Promise 6. */
+/** Promise 6, ordinary use; the boundary cases stand in ClockEdgeTest. */
 final class ClockTest {
     public static void main(String[] args) {
         Checks checks = new Checks();

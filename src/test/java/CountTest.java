@@ -1,8 +1,8 @@
-/** Promise 7. */
+/** Promise 7, ordinary use; the boundary cases stand in CountEdgeTest. */
 final class CountTest {
     public static void main(String[] args) {
         Checks checks = new Checks();
-        OrderedRoom room = Checks.roomOfThree();
+        OrderedRoom room = Rooms.after(Rooms.THREE);
         checks.due("count(0) of the own one, unread", room.count(0), 0);
         room.take(1, 0);
         checks.due("count(0), one other heard", room.count(0), 0);

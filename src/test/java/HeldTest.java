@@ -1,4 +1,4 @@
-/** Promise 9. */
+/** Promise 9, ordinary use; the boundary cases stand in HeldEdgeTest. */
 final class HeldTest {
     public static void main(String[] args) {
         Checks checks = new Checks();

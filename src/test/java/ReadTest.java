@@ -1,4 +1,4 @@
-/** Promise 8. */
+/** Promise 8, ordinary use; the boundary cases stand in ReadEdgeTest. */
 final class ReadTest {
     public static void main(String[] args) {
         Checks checks = new Checks();

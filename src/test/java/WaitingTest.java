@@ -1,4 +1,4 @@
-/** Promise 5. */
+/** Promise 5, ordinary use; the boundary cases stand in WaitingEdgeTest. */
 final class WaitingTest {
     public static void main(String[] args) {
         Checks checks = new Checks();
