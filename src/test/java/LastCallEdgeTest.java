@@ -4,8 +4,8 @@ final class LastCallEdgeTest {
     private static final int CALLS = 512;
 
     public static void main(String[] args) {
-        CHECKS.edge("the 512th call, after as many ticks and takes as there can be", LastCallEdgeTest::ticksAndTakes);
-        CHECKS.edge("the 512th call, after clocks were led as high as three can lead them", LastCallEdgeTest::highClocks);
+        CHECKS.edge("the 512th call, after 170 ticks and 340 takes", LastCallEdgeTest::ticksAndTakes);
+        CHECKS.edge("the 512th call, after clocks went beyond 300", LastCallEdgeTest::highClocks);
         CHECKS.edge("the 512th call, after refused calls alone", LastCallEdgeTest::refusedCalls);
         CHECKS.edge("the 512th call reads 40 messages", LastCallEdgeTest::fortyAtTheEnd);
         CHECKS.finish();
@@ -50,8 +50,12 @@ final class LastCallEdgeTest {
     private static void refusedCalls() {
         OrderedRoom room = new OrderedRoom();
         for (int calls = 1; calls < CALLS; calls++) {
-            int kind = calls % 4;
-            int answer = kind == 0 ? room.write(3) : kind == 1 ? room.tick(-1) : kind == 2 ? room.take(0, 1) : room.read(0, 0);
+            int answer = switch (calls % 4) {
+                case 0 -> room.write(3);
+                case 1 -> room.tick(-1);
+                case 2 -> room.take(0, 1);
+                default -> room.read(0, 0);
+            };
             CHECKS.due("refused call", answer, -1);
         }
         CHECKS.due("write(2), the 512th call", room.write(2), 0);
