@@ -39,7 +39,8 @@ final class Rooms {
         return answer;
     }
 
-    private static int call(OrderedRoom room, String word) {
+    /** One call told in short; answers what it did, also if it was refused. */
+    static int call(OrderedRoom room, String word) {
         int first = word.charAt(0) - '0';
         int last = word.charAt(word.length() - 1) - '0';
         return switch (word.charAt(0)) {
