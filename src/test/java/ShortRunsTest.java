@@ -1,4 +1,4 @@
-/** Promises 1 to 10 together: after every run of five calls that change something, every answer against the model. */
+/** Promises 1 to 10 together: every run of five writes, ticks and takes up to its first refused one, against the model. */
 final class ShortRunsTest {
     private static final int LENGTH = 5;
     private static final Checks CHECKS = new Checks();
